@@ -1,3 +1,5 @@
+import java.math.BigInteger;
+
 /** Promises 24 to 28: shares of lips, two who want a bowl, illness by chance, decades by a seed. */
 public final class ChancesTest {
     private static final Due DUE = new Due();
@@ -75,6 +77,8 @@ public final class ChancesTest {
         restsAre("an echo after an old one", "GB9B9F051F063", 0, BowlState.NONE);
         restsAre("an old one and an echo", "GB9B9F053F061", 0, BowlState.NONE);
         restsAre("a bowl is better than being alone", "GB9B1F000F000", 1, 0);
+        restsAre("both in the second", "GB1B9F100F110", 1, 11);
+        restsAre("each where it was", "GB1B1B9F200F101", 2, 20);
         // Fish 1 keeps 3 anywhere, fish 0 keeps 8 in bowls 0 and 2: it has one of these, without the other one.
         BowlState x = Due.of("GB9B4B9F050F110F260");
         DUE.is("the second and the first", x.rests(1, 0, 0), 4);
@@ -170,6 +174,45 @@ public final class ChancesTest {
         DUE.is("no act", x.count(8), 0);
         x = Due.of("GB1F050L00");
         firstDraws(x);
+        for (int lip = 0; lip < 4; lip++) {
+            dutyDrawn(lip);
+        }
+    }
+
+    /** One lip alone is well, then it is drawn to be ill, and in an hour all is lost. */
+    private static void dutyDrawn(int lip) {
+        BowlState x = Due.of("GB1F050L00L00L00L00");
+        for (int other = 0; other < 4; other++) {
+            if (other != lip) {
+                x.duty(other);
+            }
+        }
+        x.seed(seedThatDraws(5 + lip));
+        DUE.is("lip " + lip + " drawn, then an hour", x.decades(2), 1);
+        DUE.is("it is well all the same", x.count(7), 1 << lip);
+        x.duty(lip);
+        x.seed(seedThatDraws(5 + lip));
+        DUE.is("lip " + lip + " drawn to be well, then an hour", x.decades(2), 2);
+    }
+
+    /** A seed by which that is drawn first, and an hour behind it. */
+    private static long seedThatDraws(int first) {
+        for (long seed = 0; seed < 1000000; seed++) {
+            long next = after(seed);
+            if (drawn(next) == first && drawn(after(next)) >= 9) {
+                return seed;
+            }
+        }
+        throw new IllegalStateException("no seed draws " + first);
+    }
+
+    private static long after(long seed) {
+        return BigInteger.valueOf(seed).multiply(new BigInteger("6364136223846793005"))
+            .add(new BigInteger("1442695040888963407")).longValue();
+    }
+
+    private static int drawn(long seed) {
+        return new BigInteger(Long.toUnsignedString(seed)).shiftRight(33).mod(BigInteger.valueOf(24)).intValue();
     }
 
     /** Seeds whose first draw is told: water of bowl 0, duty of lip 0, an hour, and such as there are not. */
@@ -198,11 +241,7 @@ public final class ChancesTest {
         boolean[] found = new boolean[24];
         int missing = 24;
         for (long seed = 0; missing > 0; seed++) {
-            java.math.BigInteger next = java.math.BigInteger.valueOf(seed)
-                .multiply(new java.math.BigInteger("6364136223846793005"))
-                .add(new java.math.BigInteger("1442695040888963407"))
-                .mod(java.math.BigInteger.ONE.shiftLeft(64));
-            int draw = next.shiftRight(33).mod(java.math.BigInteger.valueOf(24)).intValue();
+            int draw = drawn(after(seed));
             if (!found[draw]) {
                 found[draw] = true;
                 seeds[draw] = seed;
