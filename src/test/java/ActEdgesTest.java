@@ -480,6 +480,30 @@ public final class ActEdgesTest {
         x.undo();
         edges.is("duty", x.count(7), 3);
         edges.is("the hour is left", x.undo(), 0);
+        lastUndoneOfFive();
+    }
+
+    private void lastUndoneOfFive() {
+        BowlState x = Due.of("GB9B1B2F000F010F020F130F140L00L10L00L10");
+        for (int fish = 0; fish < 5; fish++) {
+            int bowl = x.fish(fish, 0);
+            int left = x.fish(fish, 4);
+            x.move(fish, 2);
+            x.undo();
+            edges.is("not moved, " + fish, x.fish(fish, 0), bowl);
+            edges.fishHas("not moved", x, fish, fish, left);
+            x.tell(fish, 9);
+            x.undo();
+            edges.fishHas("not told", x, fish, fish, left);
+            x.water(bowl);
+            x.undo();
+            edges.fishHas("no water", x, fish, fish, left);
+        }
+        for (int lip = 0; lip < 4; lip++) {
+            x.duty(lip);
+            x.undo();
+            edges.is("not ill, " + lip, x.count(7), 15);
+        }
     }
 
     private void undoAnswer() {

@@ -191,6 +191,7 @@ public final class ChanceEdgesTest {
     private void restsNone() {
         edges.terms("(10 times the one and the other); NONE.");
         restsAre("one goes after the other", Due.of("GB9B9F051F063"), 0, BowlState.NONE);
+        restsAre("one goes after the other, of five", Due.of("GB9B9B9B9B9F051F063"), 0, BowlState.NONE);
         restsAre("in one bowl it has it", Due.of("GB9F051F063"), 1, 0);
     }
 

@@ -59,6 +59,30 @@ public final class SlotEdgesTest {
         x.hour();
         edges.is("again 1, once more", x.again(1), 3);
         standsAs(x, new int[] {1, 1, 5, 0, 2, 3, 1, 3});
+        slotsKeepFiveFish();
+    }
+
+    private void slotsKeepFiveFish() {
+        BowlState x = Due.of("GB9B1F000F010F020F130F140L00L10L00L10");
+        x.move(0, 1);
+        x.move(4, 0);
+        x.tell(4, 9);
+        x.duty(3);
+        x.keep(1);
+        x.move(4, 1);
+        x.move(1, 1);
+        x.water(0);
+        x.water(1);
+        x.duty(0);
+        x.duty(3);
+        x.hour();
+        edges.is("again, of five", x.again(1), 0);
+        int[][] due = {{1, 0, 1}, {0, 1, 9}, {0, 2, 9}, {1, 3, 1}, {0, 9, 9}};
+        for (int fish = 0; fish < 5; fish++) {
+            edges.is("place of " + fish + ", of five", x.fish(fish, 0), due[fish][0]);
+            edges.fishHas("of five", x, fish, due[fish][1], due[fish][2]);
+        }
+        edges.is("on duty, of four", x.count(7), 7);
     }
 
     /** Both places, both secrets, what is left of both, who is on duty, the hour. */
